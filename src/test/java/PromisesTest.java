@@ -248,8 +248,8 @@ public final class PromisesTest {
     x.number(-5);
     x.fail();
     x.pair(0, 0);
-    due("when", x.when(1, 1, 2), 4);
-    dueNumber("when not 0", x, 4, -5);
+    due("when", x.when(1, 0, 2), 4);
+    dueNumber("when not 0", x, 4, 0);
     x.when(0, 2, 1);
     dueNumber("when 0", x, 5, -5);
     x.when(3, 1, 1);
@@ -613,6 +613,25 @@ public final class PromisesTest {
     due("the SET that was given up is none of them: TOKENS", x.count(8), 7);
   }
 
+  /** A SET of 64 ways, each with six lists of 99 TOKENS of its own: they do not add up. */
+  private static void manyLists() {
+    SharedChoices x = new SharedChoices();
+    int one = x.number(1);
+    int pair = one;
+    for (int k = 0; k < 4; k++) pair = x.pair(pair, pair);
+    int of63 = x.pair(pair, pair);
+    int of98 = x.pair(x.pair(pair, of63), x.set(one, 0));
+    int outside = x.count(0);
+    int sum = -1;
+    for (int k = 0; k < 6; k++) {
+      int many = x.op(0, x.fold(0, x.set(of98, outside)), x.choice(one, one));
+      sum = sum < 0 ? many : x.op(0, sum, many);
+    }
+    dueNumber("many lists", x, x.fold(1, x.set(sum, outside)), 64 * 12);
+    // 64 ways of 29; nine times 8 for what is OUTSIDE, which costs 10 itself; FOLD, SET.
+    dueCounts("many lists", x, 1, 1, 1, 0, 0, 0, 64 * 29 + 9 * 8 + 10 + 2);
+  }
+
   public static void main(String[] args) {
     newObject();
     number();
@@ -637,6 +656,7 @@ public final class PromisesTest {
     mostListed();
     mostLabour();
     mostSets();
+    manyLists();
     System.out.println(wrong == 0 ? "all answers are as due" : wrong + " answers are not as due");
     if (wrong != 0) System.exit(1);
   }
