@@ -301,7 +301,7 @@ public final class ModelTest {
     }
   }
 
-  private static void grow(SharedChoices x, Model model, int size, int taste) {
+  private static void grow(Model model, int size, int taste) {
     int[] sorts = sorts(taste);
     while (likely.size() < size) {
       int n = likely.size();
@@ -309,22 +309,39 @@ public final class ModelTest {
       int[] node = {sort, -1, -1, -1};
       long number = below(9) == 0 ? Long.MIN_VALUE : below(7) - 2;
       int kind = 0;
-      int got = -2;
       switch (sort) {
-        case 0: got = x.number(number); break;
-        case 1: kind = below(8) == 0 ? below(3) : 0; node[1] = pick(kind); node[2] = pick(kind); kind = likely.get(node[1]); got = x.choice(node[1], node[2]); break;
-        case 2: got = x.fail(); break;
-        case 3: kind = 1; node[1] = pick(-1); node[2] = pick(-1); got = x.pair(node[1], node[2]); break;
-        case 4: case 5: node[1] = pick(1); got = x.part(node[1], sort == 5); break;
-        case 6: node[1] = pick(0); node[2] = pick(0); node[3] = below(6); got = x.op(node[3], node[1], node[2]); break;
-        case 7: node[1] = pick(0); node[2] = pick(-1); node[3] = pick(likely.get(node[2])); kind = likely.get(node[2]); got = x.when(node[1], node[2], node[3]); break;
-        case 8: kind = 2; node[1] = pick(-1); node[2] = mark(n); got = x.set(node[1], node[2]); break;
-        default: node[1] = pick(2); node[2] = below(3); got = x.fold(node[2], node[1]); break;
+        case 0: case 2: break;
+        case 1: kind = below(8) == 0 ? below(3) : 0; node[1] = pick(kind); node[2] = pick(kind); kind = likely.get(node[1]); break;
+        case 3: kind = 1; node[1] = pick(-1); node[2] = pick(-1); break;
+        case 4: case 5: node[1] = pick(1); break;
+        case 6: node[1] = pick(0); node[2] = pick(0); node[3] = below(6); break;
+        case 7: node[1] = pick(0); node[2] = pick(-1); node[3] = pick(likely.get(node[2])); kind = likely.get(node[2]); break;
+        case 8: kind = 2; node[1] = pick(-1); node[2] = mark(n); break;
+        default: node[1] = pick(2); node[2] = below(3); break;
       }
-      due("made", got, n);
       model.nodes.add(node);
       model.numbers.add(number);
       likely.add(kind);
+    }
+  }
+
+  private static SharedChoices made(Model model) {
+    SharedChoices x = new SharedChoices();
+    for (int n = 0; n < model.nodes.size(); n++) due("made", make(x, model.nodes.get(n), model.numbers.get(n)), n);
+    return x;
+  }
+
+  private static int make(SharedChoices x, int[] node, long number) {
+    switch (node[0]) {
+      case 0: return x.number(number);
+      case 1: return x.choice(node[1], node[2]);
+      case 2: return x.fail();
+      case 3: return x.pair(node[1], node[2]);
+      case 4: case 5: return x.part(node[1], node[0] == 5);
+      case 6: return x.op(node[3], node[1], node[2]);
+      case 7: return x.when(node[1], node[2], node[3]);
+      case 8: return x.set(node[1], node[2]);
+      default: return x.fold(node[2], node[1]);
     }
   }
 
@@ -340,24 +357,34 @@ public final class ModelTest {
 
   private static final int[] seen = new int[7];
 
-  private static void dueNodes(String what, SharedChoices x, Model model) {
+  /** No more is promised of an object. */
+  private static final int MOST_CALLS = 512;
+
+  private static void dueNodes(String what, Model model) {
+    SharedChoices x = made(model);
     for (int n = 0; n < model.nodes.size(); n++) {
       for (int k = 0; k < 4; k++) due(what + " node(" + n + ", " + k + ")", x.node(n, k), model.nodes.get(n)[k]);
     }
     due(what + " count(0)", x.count(0), model.nodes.size());
   }
 
+  /** How many calls dueLatest makes. */
+  private static int callsOf(Place latest) {
+    return latest == null ? 5 : 5 + latest.alternatives.size() + 2 * latest.tokens.size();
+  }
+
   private static void dueLatest(String what, SharedChoices x, Place latest) {
-    due(what + " count(6)", x.count(6), latest == null ? 0 : latest.labour);
-    due(what + " count(7)", x.count(7), latest == null ? 0 : latest.alternatives.size());
-    due(what + " count(8)", x.count(8), latest == null ? 0 : latest.tokens.size());
     int decisions = latest == null ? 0 : latest.alternatives.size();
+    int tokens = latest == null ? 0 : latest.tokens.size();
+    int told = x.count(8);
+    due(what + " count(6)", x.count(6), latest == null ? 0 : latest.labour);
+    due(what + " count(7)", x.count(7), decisions);
+    due(what + " count(8)", told, tokens);
     for (int k = 0; k <= decisions; k++) {
       due(what + " decision " + k, x.decision(k), k < decisions ? latest.alternatives.get(k) : -1);
     }
-    int tokens = latest == null ? 0 : latest.tokens.size();
-    for (int k = 0; k < Math.min(tokens, x.count(8)); k++) {
-      for (int w = 0; w < 2; w++) due(what + " token " + k, x.token(k, w), latest.tokens.get(k)[w] + (w == 1 && latest.tokens.get(k)[0] == 1 ? 2 - latest.tokens.get(k)[1] : 0));
+    for (int k = 0; k < Math.min(tokens, told); k++) {
+      for (int w = 0; w < 2; w++) due(what + " token " + k, x.token(k, w), latest.tokens.get(k)[w]);
     }
     try {
       x.token(tokens, 0);
@@ -367,8 +394,17 @@ public final class ModelTest {
     }
   }
 
-  private static void dueSearch(String what, SharedChoices x, Model model, int n, int mode, int bound) {
+  /** A new object that has been searched up to where the one before it was. */
+  private static SharedChoices asked(Model model, int n, int mode, int bound, int calls) {
+    SharedChoices x = made(model);
     x.ask(n, mode, bound);
+    for (int k = 0; k < calls; k++) due("next of a new object", x.next(), 1);
+    return x;
+  }
+
+  private static void dueSearch(String what, Model model, int n, int mode, int bound) {
+    SharedChoices x = asked(model, n, mode, bound, 0);
+    int left = MOST_CALLS - model.nodes.size() - 1;
     List<Place> places = new Order(model, n, mode, bound).places;
     int[] counts = new int[6];
     Place latest = null;
@@ -383,6 +419,12 @@ public final class ModelTest {
         if (place.end == 2) { latest = place; end = 1; break; }
         end = at < places.size() ? 2 : 0;
       }
+      int calls = 1 + 5 + callsOf(latest) + 2;
+      if (calls > left) {
+        x = asked(model, n, mode, bound, call);
+        left = MOST_CALLS - model.nodes.size() - 1 - call;
+      }
+      left -= calls;
       String told = what + " call " + call;
       due(told + " next", x.next(), end);
       for (int k = 1; k < 6; k++) due(told + " count(" + k + ")", x.count(k), counts[k]);
@@ -394,22 +436,19 @@ public final class ModelTest {
   }
 
   private static void dueStore(int run) {
-    SharedChoices x = new SharedChoices();
     Model model = new Model(new ArrayList<>(), new ArrayList<>());
     likely.clear();
     int size = 3 + below(run % 3 == 0 ? 10 : 58);
     int taste = below(9);
     near = 2 + below(8);
-    for (int round = 0; round < 2; round++) {
-      grow(x, model, Math.min(60, round == 0 ? size / 2 + 1 : size), taste);
-      for (int search = 0; search < 3; search++) {
-        int n = model.nodes.size() - 1 - below(Math.min(model.nodes.size(), 8));
-        int mode = below(3);
-        int bound = 1 + below(mode == 2 || below(4) > 0 ? 6 : 60);
-        dueSearch("store " + run + " node " + n + " mode " + mode + " bound " + bound, x, model, n, mode, bound);
-      }
+    grow(model, Math.min(60, size), taste);
+    for (int search = 0; search < 6; search++) {
+      int n = model.nodes.size() - 1 - below(Math.min(model.nodes.size(), 8));
+      int mode = below(3);
+      int bound = 1 + below(mode == 2 || below(4) > 0 ? 6 : 60);
+      dueSearch("store " + run + " node " + n + " mode " + mode + " bound " + bound, model, n, mode, bound);
     }
-    dueNodes("store " + run, x, model);
+    dueNodes("store " + run, model);
     seen[6] += model.anew;
   }
 

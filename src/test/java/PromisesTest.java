@@ -1,79 +1,5 @@
-import java.util.NoSuchElementException;
-
 /** Runs of calls whose answers were worked out by hand from the document, promise by promise. */
-public final class PromisesTest {
-  private static final String NOTHING = "nothing";
-  private static final String ARGUMENT = "IllegalArgumentException";
-  private static final String STATE = "IllegalStateException";
-  private static final String ELEMENT = "NoSuchElementException";
-
-  private static int wrong = 0;
-
-  private interface Call { void run(); }
-
-  private static void due(String what, long got, long want) {
-    if (got != want) {
-      wrong++;
-      System.out.println(what + ": answered " + got + ", due is " + want);
-    }
-  }
-
-  private static void dueThrow(String what, String want, Call call) {
-    String got = NOTHING;
-    try {
-      call.run();
-    } catch (RuntimeException e) {
-      got = e.getClass().getSimpleName();
-    }
-    if (!got.equals(want)) {
-      wrong++;
-      System.out.println(what + ": throws " + got + ", due is " + want);
-    }
-  }
-
-  private static void dueCounts(String what, SharedChoices x, int first, int... want) {
-    for (int k = 0; k < want.length; k++) due(what + ": count(" + (first + k) + ")", x.count(first + k), want[k]);
-  }
-
-  /** Tokens as pairs of kind and number. */
-  private static void dueTokens(String what, SharedChoices x, long... want) {
-    due(what + ": count(8)", x.count(8), want.length / 2);
-    for (int k = 0; k < want.length / 2 && k < x.count(8); k++) {
-      due(what + ": token(" + k + ", 0)", x.token(k, 0), want[2 * k]);
-      due(what + ": token(" + k + ", 1)", x.token(k, 1), want[2 * k + 1]);
-    }
-    int past = want.length / 2;
-    dueThrow(what + ": token behind the last", ELEMENT, () -> x.token(past, 0));
-  }
-
-  private static void dueDecisions(String what, SharedChoices x, int... want) {
-    due(what + ": count(7)", x.count(7), want.length);
-    for (int k = 0; k < want.length; k++) due(what + ": decision(" + k + ")", x.decision(k), want[k]);
-    due(what + ": decision behind the last", x.decision(want.length), SharedChoices.NONE);
-    due(what + ": decision(-1)", x.decision(-1), SharedChoices.NONE);
-  }
-
-  /** The one way of a node ends as a number. */
-  private static void dueNumber(String what, SharedChoices x, int n, long want) {
-    x.ask(n, 0, 1);
-    due(what + ": next()", x.next(), 1);
-    dueTokens(what, x, 0, want);
-    due(what + ": next() again", x.next(), 0);
-  }
-
-  /** Next finds no value; how many ways failed and were given up. */
-  private static void dueNoValue(String what, SharedChoices x, int n, int failed, int givenUp) {
-    x.ask(n, 0, 1);
-    due(what + ": next()", x.next(), 0);
-    dueCounts(what, x, 2, 0, failed, givenUp, 0, 0, 0, 0);
-  }
-
-  private static SharedChoices full() {
-    SharedChoices x = new SharedChoices();
-    for (int k = 0; k < 60; k++) due("number " + k, x.number(k), k);
-    return x;
-  }
-
+public final class PromisesTest extends Due {
   private static void newObject() {
     SharedChoices x = new SharedChoices();
     due("NONE", SharedChoices.NONE, -1);
@@ -88,7 +14,7 @@ public final class PromisesTest {
   }
 
   private static void number() {
-    SharedChoices x = full();
+    SharedChoices x = Make.full();
     due("number at 60", x.number(7), -1);
     due("nothing happens", x.count(0), 60);
     dueNumber("the last number", x, 59, 59);
@@ -120,7 +46,7 @@ public final class PromisesTest {
     dueTokens("choice: second", x, 0, 20);
     dueDecisions("choice: second", x, 1);
     due("choice: end", x.next(), 0);
-    SharedChoices y = full();
+    SharedChoices y = Make.full();
     due("choice at 60", y.choice(0, 59), -1);
     dueThrow("choice at 60: no node", ARGUMENT, () -> y.choice(0, 60));
     due("still 60", y.count(0), 60);
@@ -136,7 +62,7 @@ public final class PromisesTest {
     due("fail is left out", x.next(), 1);
     dueDecisions("fail is left out", x, 1);
     dueCounts("fail is left out", x, 1, 3, 1, 1, 0, 0);
-    due("fail at 60", full().fail(), -1);
+    due("fail at 60", Make.full().fail(), -1);
   }
 
   private static void pair() {
@@ -153,7 +79,7 @@ public final class PromisesTest {
     due("pair: LABOUR is once a node", x.count(6), 3);
     x.pair(0, 1);
     dueNoValue("pair: in full", x, 4, 1, 0);
-    SharedChoices y = full();
+    SharedChoices y = Make.full();
     due("pair at 60", y.pair(0, 0), -1);
     dueThrow("pair at 60: no node", ARGUMENT, () -> y.pair(60, 0));
   }
@@ -178,7 +104,7 @@ public final class PromisesTest {
     dueNoValue("second of a list", x, 9, 1, 0);
     dueThrow("part: no a", ARGUMENT, () -> x.part(10, true));
     dueThrow("part: below 0", ARGUMENT, () -> x.part(-1, false));
-    SharedChoices y = full();
+    SharedChoices y = Make.full();
     due("part at 60", y.part(0, true), -1);
     dueThrow("part at 60: no node", ARGUMENT, () -> y.part(60, true));
   }
@@ -221,7 +147,7 @@ public final class PromisesTest {
     dueThrow("op: no a", ARGUMENT, () -> x.op(0, 3, 0));
     dueThrow("op: no b", ARGUMENT, () -> x.op(0, 0, 3));
     due("none was made", x.count(0), 3);
-    SharedChoices y = full();
+    SharedChoices y = Make.full();
     due("op at 60", y.op(0, 0, 0), -1);
     dueThrow("op at 60: kind", ARGUMENT, () -> y.op(6, 0, 0));
     dueThrow("op at 60: no node", ARGUMENT, () -> y.op(0, 0, 60));
@@ -259,7 +185,7 @@ public final class PromisesTest {
     dueThrow("when: no c", ARGUMENT, () -> x.when(8, 0, 0));
     dueThrow("when: no a", ARGUMENT, () -> x.when(0, 8, 0));
     dueThrow("when: no b", ARGUMENT, () -> x.when(0, 0, 8));
-    SharedChoices y = full();
+    SharedChoices y = Make.full();
     due("when at 60", y.when(0, 0, 0), -1);
     dueThrow("when at 60: no node", ARGUMENT, () -> y.when(0, 0, 60));
   }
@@ -291,7 +217,7 @@ public final class PromisesTest {
     x.ask(10, 0, 1);
     due("set of none", x.next(), 1);
     dueTokens("set of none", x, 2, 0);
-    SharedChoices y = full();
+    SharedChoices y = Make.full();
     due("set at 60", y.set(0, 60), -1);
     dueThrow("set at 60: m", ARGUMENT, () -> y.set(0, 61));
     dueThrow("set at 60: no node", ARGUMENT, () -> y.set(60, 0));
@@ -375,14 +301,14 @@ public final class PromisesTest {
     dueThrow("fold: kind -1", ARGUMENT, () -> x.fold(-1, 3));
     dueThrow("fold: kind 3", ARGUMENT, () -> x.fold(3, 3));
     dueThrow("fold: no a", ARGUMENT, () -> x.fold(0, 60));
-    SharedChoices y = full();
+    SharedChoices y = Make.full();
     due("fold at 60", y.fold(0, 0), -1);
     dueThrow("fold at 60: kind", ARGUMENT, () -> y.fold(3, 0));
     dueThrow("fold at 60: no node", ARGUMENT, () -> y.fold(0, 60));
   }
 
   private static void clear() {
-    SharedChoices x = full();
+    SharedChoices x = Make.full();
     x.ask(3, 0, 1);
     due("clear: next", x.next(), 1);
     due("clear", x.clear(), 60);
@@ -454,23 +380,11 @@ public final class PromisesTest {
     dueThrow("no VALUE, no TOKEN", ELEMENT, () -> x.token(0, 0));
   }
 
-  /** A node with so many ways, of choices alone, that are all the same number. */
-  private static int ends(SharedChoices x, int many) {
-    int zero = x.number(0);
-    int power = zero;
-    int got = (many & 1) == 1 ? zero : -1;
-    for (int bit = 2; bit <= many; bit *= 2) {
-      power = x.choice(power, power);
-      if ((many & bit) != 0) got = got < 0 ? power : x.choice(power, got);
-    }
-    return got;
-  }
-
   private static void spent() {
-    SharedChoices x = new SharedChoices();
-    int hundred = ends(x, 100);
-    int oneMore = x.choice(hundred, 0);
     for (int mode = 0; mode < 3; mode++) {
+      SharedChoices x = new SharedChoices();
+      int hundred = Make.ends(x, x.number(0), 100);
+      int oneMore = x.choice(hundred, 0);
       x.ask(hundred, mode, mode == 1 ? 3 : 60);
       for (int k = 0; k < 100; k++) due("100 ways: next", x.next(), 1);
       due("100 ways: end", x.next(), 0);
@@ -570,7 +484,7 @@ public final class PromisesTest {
 
   private static void mostListed() {
     SharedChoices x = new SharedChoices();
-    int most = ends(x, 99);
+    int most = Make.ends(x, x.number(0), 99);
     dueNumber("a list of 99 numbers", x, x.fold(0, x.set(most, 0)), 99);
     int fail = x.fail();
     dueNumber("99 and failing ones", x, x.fold(0, x.set(x.choice(most, fail), 0)), 99);
@@ -657,7 +571,6 @@ public final class PromisesTest {
     mostLabour();
     mostSets();
     manyLists();
-    System.out.println(wrong == 0 ? "all answers are as due" : wrong + " answers are not as due");
-    if (wrong != 0) System.exit(1);
+    finish();
   }
 }
