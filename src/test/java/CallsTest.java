@@ -266,6 +266,7 @@ public final class CallsTest extends Due {
     due("the first VALUE again", y.decision(0), 0);
     due("and the second", y.next(), 1);
     due("and no third", y.next(), 0);
+    nothingIsLeft();
 
     sentence("IllegalArgumentException: there is no such node, or no such MODE or bound; the SEARCH that was goes on.");
     refusedAsks("without a SEARCH", Make.numbers(3), 3);
@@ -287,6 +288,23 @@ public final class CallsTest extends Due {
     refusedAsks("when it is SPENT", z, z.count(0));
     due("still SPENT", z.next(), 2);
     full();
+  }
+
+  /** At its first VALUE a SEARCH still has others to come to, in the next windows too: clear or another ask ends it. */
+  private static void nothingIsLeft() {
+    for (int mode = 0; mode < 3; mode++) {
+      for (int then = 0; then < 6; then++) {
+        SharedChoices x = Make.numbers(3);
+        int tree = x.choice(x.choice(0, 1), x.choice(2, x.choice(1, 0)));
+        x.ask(x.choice(tree, 2), mode, mode == 1 ? 1 : 60);
+        due("at its first VALUE", x.next(), 1);
+        if (then >= 3) {
+          x.clear();
+          x.number(9);
+        }
+        dueSearch("nothing is left of it", x, 0, then % 3, 1, 0, 1, 1, 0, 0, 0, 1, 0, 1);
+      }
+    }
   }
 
   private static void refusedAsks(String what, SharedChoices x, int nodes) {

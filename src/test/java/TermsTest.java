@@ -9,14 +9,12 @@ public final class TermsTest extends Due {
   private static void calls() {
     sentence("An object is used for at most 512 calls after it has been made; what later calls answer is free.");
     SharedChoices x = new SharedChoices();
-    int last = Make.tokens(x, 49);
-    int made = x.count(0);
-    int list = x.set(x.choice(last, last), 0);
-    int calls = made + 3;
+    int sum = lists(x, 10);
+    int calls = x.count(0) + 1;
     while (calls + 4 < 512) {
-      x.ask(list, calls % 3, 1 + calls % 60);
+      x.ask(sum, calls % 3, 1 + calls % 60);
       due("next, ahead of call " + calls, x.next(), 1);
-      due("TOKENS, ahead of call " + calls, x.count(8), 99);
+      due("TOKEN, ahead of call " + calls, x.token(0, 1), 10);
       due("next again, ahead of call " + calls, x.next(), 0);
       calls += 4;
     }
@@ -24,7 +22,15 @@ public final class TermsTest extends Due {
       x.count(0);
       calls++;
     }
-    due("call 512", x.count(8), 99);
+    due("call 512", x.token(0, 1), 10);
+  }
+
+  /** A number that is how many lists of 100 TOKENS its way has to keep. */
+  private static int lists(SharedChoices x, int many) {
+    int of99 = Make.tokens(x, 99);
+    int sum = x.fold(0, x.set(of99, of99 + 1));
+    for (int k = 1; k < many; k++) sum = x.op(0, sum, x.fold(0, x.set(of99, of99 + 1)));
+    return sum;
   }
 
   // ---- nodes ----
@@ -141,6 +147,11 @@ public final class TermsTest extends Due {
     int part = x.part(x.pair(sum, x.fail()), false);
     dueFirst("a part, needed twice", x, x.op(0, part, part), 0, 4);
     due("what a pair names and is not needed costs nothing", x.count(6), 5);
+    SharedChoices y = new SharedChoices();
+    int kept = lists(y, 10);
+    int all = kept;
+    for (int k = 0; k < 4; k++) all = y.op(0, kept, y.fold(1, y.set(all, 0)));
+    dueNumber("ten lists, in each of five ways in one another", y, all, 50);
   }
 
   /** What would be the node at the LABOUR of 2001 does nothing: it neither fails nor decides. */

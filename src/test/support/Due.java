@@ -99,9 +99,14 @@ class Due {
   /** The whole search, to what next answers at its end: PLACES, VALUES, FAILED, GIVEN UP, CUT. */
   static void dueSearch(String what, SharedChoices x, int n, int mode, int bound, int end, int... counts) {
     x.ask(n, mode, bound);
-    int answer = 1;
-    for (int call = 0; call <= 200 && answer == 1; call++) answer = x.next();
+    int values = 0;
+    int answer = x.next();
+    while (answer == 1 && values < 200) {
+      values++;
+      answer = x.next();
+    }
     due(what + ": the last next()", answer, end);
+    due(what + ": how often next() answered 1", values, counts[1]);
     dueCounts(what, x, 1, counts);
   }
 
