@@ -11,6 +11,9 @@ class Due {
 
   private static final String DOCUMENT = readDocument();
 
+  /** A class that is wrong at its root would fill the log otherwise; finish tells how many there were. */
+  private static final int MOST_TOLD = 1000;
+
   private static String sentence = "";
   private static int wrong = 0;
 
@@ -34,11 +37,15 @@ class Due {
 
   private static void tellWrong(String what) {
     wrong++;
-    System.out.println((sentence.isEmpty() ? "" : "\"" + sentence + "\": ") + what);
+    if (wrong <= MOST_TOLD) System.out.println((sentence.isEmpty() ? "" : "\"" + sentence + "\": ") + what);
   }
 
   static void due(String what, long got, long want) {
     if (got != want) tellWrong(what + ": answered " + got + ", due is " + want);
+  }
+
+  static void dueText(String what, String got, String want) {
+    if (!got.equals(want)) tellWrong(what + ": answered " + got + ", due is " + want);
   }
 
   static void dueThrow(String what, String want, Call call) {
